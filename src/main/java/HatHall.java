@@ -676,6 +676,18 @@ public final class HatHall {
             }
         }
 
+        /** The hats of the next row. */
+        void dressNext(Net net) {
+            int w = 0;
+            while (w < net.n && hats[w] == net.q - 1) {
+                hats[w] = 0;
+                w++;
+            }
+            if (w < net.n) {
+                hats[w]++;
+            }
+        }
+
         void guessAll(Net net) {
             for (int i = 0; i < net.n; i++) {
                 int wearer = net.order[i];
@@ -711,15 +723,16 @@ public final class HatHall {
         int viewOf(Net net, int wearer) {
             int view = 0;
             int place = 1;
-            for (int w = 0; w < net.n; w++) {
-                if ((net.looks[wearer] >> w & 1) == 1) {
+            int rest = net.looks[wearer];
+            for (int w = 0; w < net.n && rest != 0; w++, rest >>= 1) {
+                if ((rest & 1) == 1) {
                     view += hats[w] * place;
                     place *= net.q;
                 }
             }
-            int heard = net.hears[wearer];
-            for (int w = 0; w < net.n && heard != 0; w++) {
-                if ((heard >> w & 1) == 1) {
+            rest = net.hears[wearer];
+            for (int w = 0; w < net.n && rest != 0; w++, rest >>= 1) {
+                if ((rest & 1) == 1) {
                     view += guesses[w] * place;
                     place *= net.q + 1;
                 }
@@ -1360,11 +1373,12 @@ public final class HatHall {
 
         /** The first row from this one on in which no settled guess is right; the number of rows: there is none. */
         private int rowNotRight(Net net, Scene scene, int first) {
+            scene.dress(net, first);
             for (int row = first; row < net.rows; row++) {
-                scene.dress(net, row);
                 if (!someoneIsRight(net, scene)) {
                     return row;
                 }
+                scene.dressNext(net);
             }
             return net.rows;
         }
@@ -1512,6 +1526,8 @@ public final class HatHall {
         private int n = 0;
         /** Of each row, as bits: itself and those unlike it in one hat. */
         private final int[] near = new int[1 << COVERED_WEARERS];
+        /** Of each row the greatest one of those. */
+        private final int[] greatestNear = new int[1 << COVERED_WEARERS];
 
         void seek(int wearers) {
             if (n == wearers) {
@@ -1534,8 +1550,11 @@ public final class HatHall {
         private void noteNear() {
             for (int row = 0; row < 1 << n; row++) {
                 near[row] = 1 << row;
+                greatestNear[row] = row;
                 for (int w = 0; w < n; w++) {
-                    near[row] |= 1 << (row ^ 1 << w);
+                    int other = row ^ 1 << w;
+                    near[row] |= 1 << other;
+                    greatestNear[row] = Math.max(greatestNear[row], other);
                 }
             }
         }
@@ -1563,7 +1582,7 @@ public final class HatHall {
             int last = (1 << n) - 1;
             for (int row = 0; row < 1 << n; row++) {
                 if ((open >>> row & 1) == 1) {
-                    last = Math.min(last, 31 - Integer.numberOfLeadingZeros(near[row]));
+                    last = Math.min(last, greatestNear[row]);
                 }
             }
             return last;
