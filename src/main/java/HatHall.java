@@ -241,7 +241,7 @@ public final class HatHall {
     }
 
     public int alike() {
-        return net.n > Net.MOST_PLACED ? NONE : net.countPlacings(0, 0);
+        return net.countPlacings();
     }
 
     public int ring() {
@@ -397,7 +397,7 @@ public final class HatHall {
 
     /** What a slot can keep: the wearers, whom they see and hear, and their rules. */
     private static final class Net {
-        static final int MOST_PLACED = 6;
+        private static final int MOST_PLACED = 6;
 
         int n;
         int q;
@@ -627,8 +627,13 @@ public final class HatHall {
             return seen;
         }
 
+        /** In how many ways all can take one another's places and the net stays the same. */
+        int countPlacings() {
+            return n > MOST_PLACED ? NONE : placeFrom(0, 0);
+        }
+
         /** In how many ways the wearers from this one on can be placed, those before it having their places. */
-        int countPlacings(int wearer, int taken) {
+        private int placeFrom(int wearer, int taken) {
             if (wearer >= n || wearer >= MOST_PLACED) {
                 return 1;
             }
@@ -636,7 +641,7 @@ public final class HatHall {
             for (int place = 0; place < n; place++) {
                 placed[wearer] = place;
                 if ((taken >> place & 1) == 0 && suits(wearer)) {
-                    many += countPlacings(wearer + 1, taken | 1 << place);
+                    many += placeFrom(wearer + 1, taken | 1 << place);
                 }
             }
             return many;

@@ -17,6 +17,7 @@ public final class PromiseTest {
         row();
         won();
         beatenTallyRightOfWorst();
+        justOneWay();
         idle();
         otherwise();
         alike();
@@ -351,6 +352,29 @@ public final class PromiseTest {
         check.missing("19: -1", () -> x.worst(-1));
     }
 
+    /** A row whose hats can lie in just one way counts like any other. */
+    private static void justOneWay() {
+        HatHall x = hallOf(2, 2);
+        x.heap(0, 1);
+        x.heap(1, 1);
+        check.same("14: row 0", x.row(0, 2), 0);
+        check.same("14: row 1", x.row(1, 2), 1);
+        check.same("15: rows", x.won(0), 2);
+        check.same("15: weights", x.won(2), 2);
+        check.same("21: one look less", x.otherwise(0, 1), 2);
+        x.law(0, 2);
+        check.same("21: both right nowhere", x.otherwise(0, 1), 0);
+        check.same("26: sums", x.sums(), 2);
+        check.same("27: constants", x.constant(0) * 2 + x.constant(1), 3);
+        x.hall(2, 2);
+        check.same("31: two changes", x.mend(20), 2);
+        check.same("31: view 0 of both", x.cell(0, 0) + x.cell(1, 0), 2);
+        check.same("31: both rows are won", x.won(1), 2);
+        x.tell(1, 0, 0);
+        check.same("31: mended back", x.mend(20), 1);
+        check.same("31: view 0 of wearer 1", x.cell(1, 0), 1);
+    }
+
     private static void idle() {
         HatHall x = hallOf(3, 2);
         check.same("20: tables of 0", x.idle(0), 6);
@@ -515,6 +539,13 @@ public final class PromiseTest {
         x.hall(4, 4);
         check.same("26: four, each another", x.sums(), 256);
         check.same("27: 3", x.constant(3), 3);
+        x.hall(8, 2);
+        x.law(0, 4);
+        check.same("26: half of eight", x.sums(), 256);
+        check.same("27: the first half", x.constant(3) * 2 + x.constant(4), 1);
+        x.law(0, 8);
+        check.same("26: all of eight", x.sums(), 128);
+        x.law(0, 1);
         // Two who see nobody, and a third who sees one of them.
         x.hall(3, 2);
         x.looks(0, 0);

@@ -212,6 +212,8 @@ public final class TextTest {
         fault("wearer 0 guess (mee);", 3, 16);
         fault("wearer 0 guess se;", 3, 15);
         fault("wearer 0 guess seens;", 3, 15);
+        fault("wearer 0 guess z;", 3, 15);
+        fault("wearer 0 guess a;", 3, 15);
         fault("wearer 2 guess 1;", 4, 7);
         fault("wearer 999 guess 1;", 4, 7);
         fault("wearer 2 foo", 4, 7);
