@@ -25,6 +25,12 @@ final class Check {
         same(what, got ? 1 : 0, 0);
     }
 
+    HatHall hallOf(int n, int q) {
+        HatHall x = new HatHall();
+        yes("hall(" + n + ", " + q + ")", x.hall(n, q));
+        return x;
+    }
+
     void missing(String what, Call call) {
         same(what + " throws NoSuchElementException", thrownBy(call) == NoSuchElementException.class ? 1 : 0, 1);
     }
