@@ -9,6 +9,8 @@ public final class EdgeFinderTest {
         searchGoesByTheLeastWearer();
         searchTakesBack();
         searchSpent();
+        searchOfUpToEight();
+        searchOfEightWithFewLooks();
         searchFoundBecomesRules();
         searchWithoutPasses();
         sumsModQ();
@@ -27,6 +29,7 @@ public final class EdgeFinderTest {
         mendAsManyAsTold();
         mendPasses();
         mendAtMost256Views();
+        mendJust256Views();
         mendAtMost256Rows();
         drawnByTheSeed();
         drawnBits();
@@ -120,6 +123,46 @@ public final class EdgeFinderTest {
         }
         check.same("5000 are too few", y.search(5000), SPENT);
         check.same("5000 were made", y.steps(), 5000);
+    }
+
+    /** The least and the most wearers that can be found tables for, by just as many steps as the naive Model makes. */
+    private static void searchOfUpToEight() {
+        int[][] halls = {{2, 2}, {3, 2}, {4, 2}, {5, 2}, {6, 2}, {7, 2}, {8, 2}, {3, 3}, {4, 3}};
+        for (int[] h : halls) {
+            HatHall x = hallOf(h[0], h[1]);
+            Model y = new Model();
+            y.hall(h[0], h[1]);
+            check.same("the Model finds them", y.search(5000), 1);
+            check.same("just one step too few", x.search(y.steps() - 1), SPENT);
+            check.same("just enough", x.search(y.steps()), 1);
+            check.same("steps of " + h[0] + " with " + h[1], x.steps(), y.steps());
+            check.same("no row is lost", x.beaten(0), NONE);
+            for (int w = 0; w < h[0]; w++) {
+                for (int view = 0; view < x.about(w, 3); view++) {
+                    check.same("guess of " + w + " at " + view, x.cell(w, view), y.cell(w, view));
+                }
+            }
+        }
+    }
+
+    /** Eight who look at few: the last row may be gone over, or is itself settled. */
+    private static void searchOfEightWithFewLooks() {
+        int[][] looks = {{2, 1, 0, 0, 0, 0, 0, 0}, {0, 4, 2, 0, 0, 0, 0, 0}, {0, 0, 0, 0, 0, 0, 128, 64},
+                {128, 1, 2, 4, 8, 16, 32, 64}, {2, 1, 8, 4, 32, 16, 128, 64}, {2, 1, 1, 1, 1, 1, 1, 1}};
+        for (int[] sets : looks) {
+            HatHall x = hallOf(8, 2);
+            Model y = new Model();
+            y.hall(8, 2);
+            for (int w = 0; w < 8; w++) {
+                x.looks(w, sets[w]);
+                y.looks(w, sets[w]);
+            }
+            check.same("the Model finds them", y.search(5000), 1);
+            check.same("just one step too few", x.search(y.steps() - 1), SPENT);
+            check.same("just enough", x.search(y.steps()), 1);
+            check.same("steps", x.steps(), y.steps());
+            check.same("no row is lost", x.beaten(0), NONE);
+        }
     }
 
     /** "Those found become RULES (GUESSES that aren't settled 0)." */
@@ -501,6 +544,40 @@ public final class EdgeFinderTest {
         check.same("25, 1, 1", z.mend(0), 0);
         z.looks(0, 6);
         check.same("400, 1, 1", z.mend(0), NONE);
+    }
+
+    /** Eight wearers, each of whom looks at so many others; the last one goes by a text, if told. */
+    private static HatHall lookers(boolean text, int... looks) {
+        HatHall x = hallOf(8, 2);
+        for (int w = 0; w < 8; w++) {
+            int others = 255 & ~(1 << w);
+            while (Integer.bitCount(others) > looks[w]) {
+                others &= others - 1;
+            }
+            x.looks(w, others);
+            check.same("views of " + w, x.about(w, 3), 1 << looks[w]);
+        }
+        if (text) {
+            Check.told(x, "wearer 7 guess 0;");
+        }
+        return x;
+    }
+
+    /** "VIEWS of all with TABLES together .. at most 256": 256 are fine, 257 are not. */
+    private static void mendJust256Views() {
+        check.same("256", lookers(false, 7, 6, 5, 4, 3, 2, 1, 1).mend(0), 0);
+        check.same("257", lookers(false, 7, 6, 5, 4, 3, 2, 2, 0).mend(0), NONE);
+        check.same("256, and one by a text", lookers(true, 7, 6, 5, 4, 3, 2, 2, 0).mend(0), 0);
+        check.same("256, and many by a text", lookers(true, 7, 6, 5, 4, 3, 2, 2, 7).mend(0), 0);
+        check.same("257, and one by a text", lookers(true, 7, 6, 5, 4, 3, 3, 0, 0).mend(0), NONE);
+        HatHall x = lookers(false, 1, 1, 2, 3, 4, 5, 6, 7);
+        // Row 255 alone counts, and all pass there but wearer 7, who is wrong at its last view.
+        allPass(x);
+        x.heap(0, 0);
+        x.tell(7, 127, 0);
+        x.law(2, 0);
+        check.same("the last of 256 views", x.mend(20), 1);
+        check.same("it is mended", x.cell(7, 127), 1);
     }
 
     /** "and ROWS, at most 256 each" */

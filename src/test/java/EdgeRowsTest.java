@@ -21,6 +21,7 @@ public final class EdgeRowsTest {
         idleInAnyRow();
         idleWithoutLooks();
         idleAsItHears();
+        idleByAViewThatNeverComes();
         lookLess();
         lookMore();
         lookOfATextsRule();
@@ -304,6 +305,29 @@ public final class EdgeRowsTest {
         check.same("both views of that guess alike", x.idle(0), 2);
         x.tell(0, 0, 1);
         check.same("heard in rows 0 and 2", x.idle(0), 0);
+    }
+
+    /**
+     * "if the HAT looked at were another one (.. what it HEARS in that ROW, as they are)": wearer 2 guesses 1 only
+     * by two hats that it sees, so wearer 0 never has the view told here, but would in one row by another hat of 1.
+     */
+    private static void idleByAViewThatNeverComes() {
+        // The view of wearer 2, that of wearer 0 (hats of 1 and 2, then 4 and 12 times guesses), the row.
+        int[][] due = {{0, 1 + 12, 0}, {2, 12, 2}, {3, 2 + 12, 7}, {1, 1 + 2 + 12, 5}};
+        for (int[] d : due) {
+            HatHall x = hallOf(3, 2);
+            x.round(0, 1);
+            check.same("nothing told", x.idle(0), 6);
+            x.tell(2, d[0], 1);
+            check.same("nothing told of wearer 0", x.idle(0), 6);
+            x.tell(0, d[1], 1);
+            check.same("wearer 2 guesses 1 in row " + d[2], x.in(d[2], 2, 1), 1);
+            check.same("right there, but for the hat of 1", x.in(d[2], 0, 0) ^ 1, d[1]);
+            for (int row = 0; row < 8; row++) {
+                check.same("wearer 0 guesses 0 in row " + row, x.in(row, 0, 1), 0);
+            }
+            check.same("the look at 2 is idle, that at 1 is not", x.idle(0), 4);
+        }
     }
 
     /** "A LOOK less": "a WEARER with a TABLE then has one of GUESSES 0" */

@@ -20,6 +20,7 @@ public final class RefusalTest {
         falseAnswers();
         noneAnswers();
         illegalArguments();
+        bytesOfTheTape();
         searchWithoutTables();
         faults();
         questions();
@@ -244,6 +245,43 @@ public final class RefusalTest {
         for (int most : new int[] {-1, 21, LEAST, MOST}) {
             refused("mend " + most, RefusalTest::asIs, x -> x.mend(most));
             refused("mend too many views " + most, x -> x.hall(8, 3), x -> x.mend(most));
+        }
+    }
+
+    /** "and none come", "(nothing changes)": the bytes on the tape stay those that came. */
+    private static void bytesOfTheTape() {
+        HatHall x = new HatHall();
+        feed(x, "wearer 0 guess 1;   ", 1);
+        feed(x, " ".repeat(20), 23);
+        feed(x, "   wearer 1 guess 1;", 1);
+        check.same("it is full", x.count(5), 500);
+        check.same("more don't come", x.feed(1, 2, 3, 4, 5), NONE);
+        check.refused("501", () -> x.rules(501));
+        check.refused("-1", () -> x.rules(-1));
+        check.same("all are there", x.rules(500), 0);
+        check.same("both rules", x.in(0, 0, 1) * 10 + x.in(0, 1, 1), 11);
+        check.same("it is empty", x.count(5), 0);
+        check.refused("no byte is left", () -> x.rules(1));
+        feed(x, "wearer 0 guess 0;   ", 1);
+        check.same("the first bytes alone", x.rules(17), 0);
+        check.same("as they came", x.in(0, 0, 1), 0);
+        feed(x, "wearer 1 guess 0;   ", 1);
+        check.same("those behind them are gone", x.rules(20), 0);
+        check.same("no old bytes", x.in(0, 1, 1), 0);
+        feed(x, "!wearer 1 guess 1;  ", 2);
+        check.same("a fault", x.rules(3), 1);
+        check.same("empty behind a fault, too", x.count(5), 0);
+    }
+
+    private static void feed(HatHall x, String twenty, int times) {
+        int[] numbers = new int[5];
+        for (int i = 0; i < 20; i++) {
+            numbers[i / 4] = numbers[i / 4] << 8 | twenty.charAt(i);
+        }
+        int before = x.count(5);
+        for (int i = 1; i <= times; i++) {
+            int many = x.feed(numbers[0], numbers[1], numbers[2], numbers[3], numbers[4]);
+            check.same("twenty come", many, before + 20 * i);
         }
     }
 
