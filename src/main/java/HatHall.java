@@ -31,6 +31,8 @@ public final class HatHall {
     private final Sums sums = new Sums();
     private final Cover cover = new Cover();
     private final Mender mender = new Mender();
+    private final Formula firstInLine = Formula.ofFirstInLine();
+    private final Formula nextInLine = Formula.ofNextInLine();
 
     public HatHall() {
     }
@@ -302,7 +304,7 @@ public final class HatHall {
     }
 
     public int line() {
-        net.standInLine();
+        net.standInLine(firstInLine, nextInLine);
         ledger.spoil();
         return worst(0);
     }
@@ -582,11 +584,11 @@ public final class HatHall {
             return many;
         }
 
-        void standInLine() {
+        void standInLine(Formula first, Formula next) {
             for (int w = 0; w < n; w++) {
                 lookAt(w, othersOf(w) >> w << w);
                 guessIn(w, w);
-                texts[w] = w == 0 ? Formula.ofFirstInLine() : Formula.ofNextInLine();
+                texts[w] = w == 0 ? first : next;
             }
         }
 
@@ -921,6 +923,8 @@ public final class HatHall {
         static final int MOST_RULES = 16;
         static final int MOST_WITHIN = 5;
         static final int MOST_NOTS = 6;
+        /** More than three digits can tell. */
+        static final int ANY_NUMBER = 1000;
 
         int fault = 0;
         int place = NONE;
@@ -962,7 +966,7 @@ public final class HatHall {
 
         private void readRule() {
             next();
-            int wearer = readWearer();
+            int wearer = readNumber(wearers);
             int passParts = 0;
             parts = 0;
             if (kind == PASS) {
@@ -1057,31 +1061,29 @@ public final class HatHall {
                 return part;
             }
             if (isNumber()) {
-                return add(NUMBER, readNumber(), 0);
+                return add(NUMBER, readNumber(ANY_NUMBER), 0);
             }
             if (first < ME || first > HEARD) {
                 stop(isWord() ? NO_PART : MISPLACED);
                 return 0;
             }
             next();
-            return add(first, first == SEES || first == HEARS ? readWearer() : 0, 0);
+            return add(first, first == SEES || first == HEARS ? readNumber(wearers) : 0, 0);
         }
 
-        private int readNumber() {
+        /** A NUMBER; where a wearer's must stand, the limit is how many there are. */
+        private int readNumber(int limit) {
             int number = value;
-            if (kind == NUMBER) {
+            if (kind == NUMBER && number < limit) {
                 next();
                 return number;
             }
-            stop(kind == LONG_NUMBER ? TOO_MUCH : MISPLACED);
-            return 0;
-        }
-
-        private int readWearer() {
-            if (kind == NUMBER && value >= wearers) {
+            if (kind == NUMBER) {
                 stop(NO_WEARER);
+            } else {
+                stop(kind == LONG_NUMBER ? TOO_MUCH : MISPLACED);
             }
-            return readNumber();
+            return 0;
         }
 
         /** A part for the formula; its place among the parts. */
@@ -1151,7 +1153,7 @@ public final class HatHall {
         private void scanNumber() {
             value = 0;
             while (at < length && isDigit(text[at])) {
-                value = value < 1000 ? value * 10 + text[at] - '0' : value;
+                value = value < ANY_NUMBER ? value * 10 + text[at] - '0' : value;
                 at++;
             }
             kind = at - start > 3 ? LONG_NUMBER : NUMBER;
