@@ -631,19 +631,19 @@ public final class HatHall {
 
         /** In how many ways all can take one another's places and the net stays the same. */
         int countPlacings() {
-            return n > MOST_PLACED ? NONE : placeFrom(0, 0);
+            return n > MOST_PLACED ? NONE : placeFrom(this, 0, 0);
         }
 
         /** In how many ways the wearers from this one on can be placed, those before it having their places. */
-        private int placeFrom(int wearer, int taken) {
-            if (wearer >= n || wearer >= MOST_PLACED) {
+        private static int placeFrom(Net net, int wearer, int taken) {
+            if (wearer >= net.n || wearer >= MOST_PLACED) {
                 return 1;
             }
             int many = 0;
-            for (int place = 0; place < n; place++) {
-                placed[wearer] = place;
-                if ((taken >> place & 1) == 0 && suits(wearer)) {
-                    many += placeFrom(wearer + 1, taken | 1 << place);
+            for (int place = 0; place < net.n; place++) {
+                net.placed[wearer] = place;
+                if ((taken >> place & 1) == 0 && net.suits(wearer)) {
+                    many += placeFrom(net, wearer + 1, taken | 1 << place);
                 }
             }
             return many;
@@ -1550,7 +1550,7 @@ public final class HatHall {
                 many++;
                 // Any cover can be turned so that row 0 is in it, so the first one as a row of numbers has it.
                 chosen[0] = 0;
-                found = choose(1, all & ~near[0]);
+                found = choose(this, 1, all & ~near[0]);
             }
         }
 
@@ -1567,17 +1567,18 @@ public final class HatHall {
         }
 
         /** Whether more rows, each greater than those chosen, can cover the open ones; the first such are chosen. */
-        private boolean choose(int depth, int open) {
+        private static boolean choose(Cover cover, int depth, int open) {
             if (open == 0) {
                 return true;
             }
-            if (depth >= many || Integer.bitCount(open) > (many - depth) * (n + 1)) {
+            int more = cover.many - depth;
+            if (more <= 0 || Integer.bitCount(open) > more * (cover.n + 1)) {
                 return false;
             }
-            int last = lastUseful(open);
-            for (int row = chosen[depth - 1] + 1; row <= last; row++) {
-                chosen[depth] = row;
-                if (choose(depth + 1, open & ~near[row])) {
+            int last = cover.lastUseful(open);
+            for (int row = cover.chosen[depth - 1] + 1; row <= last; row++) {
+                cover.chosen[depth] = row;
+                if (choose(cover, depth + 1, open & ~cover.near[row])) {
                     return true;
                 }
             }

@@ -20,6 +20,7 @@ public final class CallsTest {
 
     /** Of each method of the class those that it calls, its own and the library's. */
     private final Map<String, Set<String>> calls = new TreeMap<>();
+    private final Set<String> privateStatics = new TreeSet<>();
     /** Of each method those that it reaches by calls. */
     private final Map<String, Set<String>> reach = new TreeMap<>();
 
@@ -55,6 +56,9 @@ public final class CallsTest {
                 String name = start.group(1).equals(one.getName()) ? "<init>" : start.group(1);
                 method = one.getName() + "." + name;
                 calls.putIfAbsent(method, new TreeSet<>());
+                if (line.contains("private static ")) {
+                    privateStatics.add(method);
+                }
             } else if (call.find()) {
                 String called = call.group(1).replace("\"", "");
                 calls.get(method).add(called.contains(".") ? called : one.getName() + "." + called);
@@ -106,6 +110,10 @@ public final class CallsTest {
         Set<String> due = Set.of("Net.placeFrom", "Cover.choose", "Reader.readOr", "Reader.readAnd", "Reader.readNot",
                 "Reader.readTest", "Reader.readSum", "Reader.readProduct", "Reader.readPart");
         check.yes("rule 8, methods that come back to themselves: " + deep, deep.equals(due));
+        for (String method : calls.keySet()) {
+            check.yes("rule 8, " + method + " calls itself",
+                    !calls.get(method).contains(method) || privateStatics.contains(method));
+        }
     }
 
     private void depths() {

@@ -120,18 +120,20 @@ public final class RoomTest {
     }
 
     private static long bytesOf(Call call, int times) {
-        long id = Thread.currentThread().getId();
-        long before = THREADS.getThreadAllocatedBytes(id);
+        long before = THREADS.getCurrentThreadAllocatedBytes();
         for (int i = 0; i < times; i++) {
             call.make();
         }
-        return THREADS.getThreadAllocatedBytes(id) - before;
+        return THREADS.getCurrentThreadAllocatedBytes() - before;
     }
 
-    /** Warmed up first: the machine itself makes objects when a line of code is reached for the first time. */
+    /** The least of some tries: the machine itself makes objects now and then, the calls would make theirs each time. */
     private static void nothing(String what, Call call) {
         bytesOf(call, 3);
         long bytes = bytesOf(call, 10);
+        for (int i = 0; i < 20 && bytes >= 100; i++) {
+            bytes = Math.min(bytes, bytesOf(call, 10));
+        }
         check.yes(what + " made " + bytes + " bytes in ten calls", bytes < 100);
     }
 
